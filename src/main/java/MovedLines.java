@@ -299,8 +299,8 @@ public final class MovedLines {
     }
 
     private int measureWords(int oldLine, int newLine) {
-        old.giveFirst(oldLine, common);
-        fresh.giveSecond(newLine, common);
+        common.setFirst(old.words, oldLine * MOST_WORDS, old.sizeOf(oldLine));
+        common.setSecond(fresh.words, newLine * MOST_WORDS, fresh.sizeOf(newLine));
         return common.measure();
     }
 
@@ -364,14 +364,6 @@ public final class MovedLines {
                 }
             }
             return true;
-        }
-
-        void giveFirst(int line, CommonRow row) {
-            row.setFirst(words, line * MOST_WORDS, sizeOf(line));
-        }
-
-        void giveSecond(int line, CommonRow row) {
-            row.setSecond(words, line * MOST_WORDS, sizeOf(line));
         }
 
         void copyAll(Edition from) {
@@ -601,7 +593,7 @@ public final class MovedLines {
         }
     }
 
-    /** Lines as numbers that are equal where the lines are alike. */
+    /** Lines as numbers: a line of OLD and one of OLD or NEW have the same, if they are alike. */
     private static final class Kinds {
         final int[] olds = new int[MOST_LINES];
         final int[] news = new int[MOST_LINES];
@@ -615,9 +607,8 @@ public final class MovedLines {
                 olds[line] = firstLike(old, line, old, line);
             }
             for (int line = 0; line < newLines; line++) {
-                int among = firstLike(fresh, line, old, oldLines);
-                // kinds that OLD does not have are numbered behind all that it could have
-                news[line] = among < oldLines ? among : MOST_LINES + firstLike(fresh, line, fresh, line);
+                // lines that OLD does not have need not be told apart: they only ever meet lines of OLD
+                news[line] = firstLike(fresh, line, old, oldLines);
             }
         }
 
@@ -671,15 +662,7 @@ public final class MovedLines {
             return line >= 0 && line < MOST_LINES && how[which][line] == LOOSE;
         }
 
-        void keepCouple(int oldLine, int newLine) {
-            join(KEPT, oldLine, newLine, NONE);
-        }
-
-        void editCouple(int oldLine, int newLine) {
-            join(EDITED, oldLine, newLine, NONE);
-        }
-
-        private void join(int as, int oldLine, int newLine, int ofBlock) {
+        void join(int as, int oldLine, int newLine, int ofBlock) {
             if (!isLoose(OLD, oldLine) || !isLoose(NEW, newLine)) {
                 return;
             }
@@ -768,7 +751,7 @@ public final class MovedLines {
         private void keepEnds(int range, Kinds kinds, Told told) {
             while (oldFrom[range] < oldTo[range] && newFrom[range] < newTo[range]
                     && kinds.areAlike(oldFrom[range], newFrom[range])) {
-                told.keepCouple(oldFrom[range], newFrom[range]);
+                told.join(KEPT, oldFrom[range], newFrom[range], NONE);
                 oldFrom[range]++;
                 newFrom[range]++;
             }
@@ -776,7 +759,7 @@ public final class MovedLines {
                     && kinds.areAlike(oldTo[range] - 1, newTo[range] - 1)) {
                 oldTo[range]--;
                 newTo[range]--;
-                told.keepCouple(oldTo[range], newTo[range]);
+                told.join(KEPT, oldTo[range], newTo[range], NONE);
             }
         }
 
@@ -828,7 +811,7 @@ public final class MovedLines {
             for (int anchor = 0; anchor < found; anchor++) {
                 if (rise[anchor] == todo && anchorNew[anchor] >= nextNew) {
                     addRange(nextOld, anchorOld[anchor], nextNew, anchorNew[anchor]);
-                    told.keepCouple(anchorOld[anchor], anchorNew[anchor]);
+                    told.join(KEPT, anchorOld[anchor], anchorNew[anchor], NONE);
                     nextOld = anchorOld[anchor] + 1;
                     nextNew = anchorNew[anchor] + 1;
                     todo--;
@@ -849,9 +832,16 @@ public final class MovedLines {
             kinds.number(old, fresh);
             told.clear();
             keeper.keep(kinds, told);
-            moveBlocks(told);
+            // each round joins a line of OLD at least, so there are no more rounds than lines
+            boolean again = true;
+            for (int round = 0; round < MOST_LINES && again; round++) {
+                again = moveLongest(told);
+            }
             measureLikeness(old, fresh, told);
-            editLines(old, fresh, told);
+            again = true;
+            for (int round = 0; round < MOST_LINES && again; round++) {
+                again = editLikest(old, fresh, told);
+            }
             told.changedWords += looseWords(OLD, old, told) + looseWords(NEW, fresh, told);
         }
 
@@ -860,21 +850,6 @@ public final class MovedLines {
             common.setFirst(kinds.olds, 0, kinds.oldLines);
             common.setSecond(kinds.news, 0, kinds.newLines);
             return common.measure();
-        }
-
-        /** Each round joins a line of OLD at least, so there are no more rounds than lines. */
-        private void moveBlocks(Told told) {
-            boolean again = true;
-            for (int round = 0; round < MOST_LINES && again; round++) {
-                again = moveLongest(told);
-            }
-        }
-
-        private void editLines(Edition old, Edition fresh, Told told) {
-            boolean again = true;
-            for (int round = 0; round < MOST_LINES && again; round++) {
-                again = editLikest(old, fresh, told);
-            }
         }
 
         private boolean moveLongest(Told told) {
@@ -911,7 +886,7 @@ public final class MovedLines {
         private void measureLikeness(Edition old, Edition fresh, Told told) {
             for (int i = 0; i < old.lines; i++) {
                 if (told.isLoose(OLD, i)) {
-                    old.giveFirst(i, common);
+                    common.setFirst(old.words, i * MOST_WORDS, old.sizeOf(i));
                     for (int j = 0; j < fresh.lines; j++) {
                         likeness[i][j] = told.isLoose(NEW, j) ? likenessTo(fresh, j, old.sizeOf(i)) : 0;
                     }
@@ -926,7 +901,7 @@ public final class MovedLines {
             if (2 * Math.min(oldSize, newSize) < longer) {
                 return 0;
             }
-            fresh.giveSecond(newLine, common);
+            common.setSecond(fresh.words, newLine * MOST_WORDS, newSize);
             int words = common.measure();
             return 2 * words >= longer ? words : 0;
         }
@@ -945,7 +920,7 @@ public final class MovedLines {
                 }
             }
             if (likest > 0) {
-                told.editCouple(oldLine, newLine);
+                told.join(EDITED, oldLine, newLine, NONE);
                 told.changedWords += old.sizeOf(oldLine) + fresh.sizeOf(newLine) - 2 * likest;
             }
             return likest > 0;
