@@ -363,6 +363,11 @@ public final class PromisesTest {
         Check.dueWays(Check.of("x;k;x;y;y;", "h;x;y;x;y;i;"), "M3 - M1 M2 M4", "- M2 M3 M0 M4 -");
         // a kept line parts a row
         Check.dueWays(Check.of("p;a;b;c;", "b;q;a;c;"), "- K2 M0 K3", "M2 - K1 K3");
+        // as many blocks as lines: no two that follow one another in OLD do so in NEW
+        MovedLines x = Check.of("a;b;c;d;e;f;g;a;b;c;d;e;f;g;", "g;f;e;d;c;b;a;g;f;e;d;c;b;a;");
+        Check.dueWays(x, "M6 M5 M4 M3 M2 M1 M0 M13 M12 M11 M10 M9 M8 M7", "M6 M5 M4 M3 M2 M1 M0 M13 M12 M11 M10 M9 M8 M7");
+        due("now(4)", x.now(4), 14);
+        due("line(0, 13, 3)", x.line(0, 13, 3), 13);
         // moved goes ahead of edited
         Check.dueWays(Check.of("a b;k;a b;", "d;a b;a c;e;"), "M1 - E2", "- M0 E2 -");
     }
@@ -380,6 +385,10 @@ public final class PromisesTest {
         Check.dueWays(Check.of("a b p q;a b c q;", "a b c r;a b s t;"), "E1 E0", "E1 E0");
         Check.dueWays(Check.of("a b;a c;", "a d;a e;f a;"), "E0 E1", "E0 E1 -");
         Check.dueWays(Check.of("a b;a c;a d;", "a e;a f;"), "E0 E1 -", "E0 E1");
+        // as many couples as lines
+        MovedLines x = Check.of(FOURTEEN.replace(";", " x;"), FOURTEEN.replace(";", " y;"));
+        due("now(5)", x.now(5), 14);
+        due("changes()", x.changes(), 28);
         // the words SHARED stand in order: c b a against a b c share one
         Check.dueWays(Check.of("a b c;", "c b a;"), "-", "-");
     }
