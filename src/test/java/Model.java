@@ -88,6 +88,22 @@ final class Model {
         return fault;
     }
 
+    int bytes() {
+        return tape.size();
+    }
+
+    int lines(int which) {
+        return editions.get(which).size();
+    }
+
+    String text(int which) {
+        StringBuilder text = new StringBuilder();
+        for (List<String> line : editions.get(which)) {
+            text.append(String.join(" ", line)).append(';');
+        }
+        return text.toString();
+    }
+
     private boolean letterAt(int p) {
         return p >= 0 && p < tape.size() && tape.get(p) >= 'a' && tape.get(p) <= 'z';
     }

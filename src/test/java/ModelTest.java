@@ -2,8 +2,9 @@ import java.util.Random;
 
 /** Runs of calls by chance (always the same ones), each answer held against Model. */
 public final class ModelTest {
-    private static final int RUNS = 1500;
-    private static final int CALLS = 500;
+    private static final int RUNS = 3000;
+    /** Behind so many calls no new round begins: a round has some 150 at most, an object 512 in all. */
+    private static final int CALLS = 350;
 
     private final Random chance;
     private final MovedLines x = new MovedLines();
@@ -83,7 +84,7 @@ public final class ModelTest {
 
     /** The other edition with its lines shuffled a little: so that there is something to keep and to move. */
     private String likeOther(int which) {
-        String[] parts = Check.text(x, 1 - which).split(";");
+        String[] parts = model.text(1 - which).split(";");
         StringBuilder text = new StringBuilder();
         int shift = chance.nextInt(parts.length + 1);
         int count = 0;
@@ -120,7 +121,7 @@ public final class ModelTest {
         if (chance.nextInt(5) != 0) {
             due("end(0)", x.end(0) ? 1 : 0, model.end(0) ? 1 : 0);
         }
-        int before = x.now(9);
+        int before = model.bytes();
         for (int from = 0; from < text.length(); from += 20) {
             int[] n = new int[5];
             for (int k = 0; k < 5; k++) {
@@ -145,7 +146,7 @@ public final class ModelTest {
 
     private void changeSomething() {
         int which = chance.nextInt(25) == 0 ? chance.nextInt(5) - 2 : chance.nextInt(2);
-        int count = which == 0 || which == 1 ? x.now(which) : 3;
+        int count = which == 0 || which == 1 ? model.lines(which) : 3;
         int at = some(count);
         switch (chance.nextInt(12)) {
             case 0:
@@ -189,7 +190,7 @@ public final class ModelTest {
             due("now(" + what + ")", x.now(what), model.now(what, result));
         }
         for (int which = 0; which < 2; which++) {
-            for (int line = 0; line < x.now(which); line++) {
+            for (int line = 0; line < model.lines(which); line++) {
                 for (int what = 1; what <= 3; what++) {
                     due("line(" + which + ", " + line + ", " + what + ")",
                         Check.lineOrThrows(x, which, line, what), model.line(which, line, what, result));
@@ -203,8 +204,8 @@ public final class ModelTest {
 
     private void askSomething() {
         int which = chance.nextInt(12) == 0 ? chance.nextInt(5) - 2 : chance.nextInt(2);
-        int old = some(x.now(0));
-        int fresh = some(x.now(1));
+        int old = some(model.lines(0));
+        int fresh = some(model.lines(1));
         int line = which == 0 ? old : fresh;
         int word = some(6);
         int k = some(4);

@@ -13,6 +13,7 @@ public final class Promise04Test {
         emptyTape();
         fullTape();
         onlyThatEdition();
+        comparedAnew();
         nothingCanBeUndone();
         tapeIsEmptyThen();
         faultLeavesAll();
@@ -66,6 +67,19 @@ public final class Promise04Test {
         Check.dueText("the one that was told", x, 1, "k;");
         Check.dueText("the other one", x, 0, "h ij;k;");
         Check.dueWays(x, "- K0", "K1");
+    }
+
+    private static void comparedAnew() {
+        MovedLines x = Check.of("a;b;", "b;c;");
+        Check.dueWays(x, "- K0", "K1 -");
+        Check.edition(x, 0, "c;c;c;");
+        Check.dueWays(x, "- - K1", "- K2");
+        Check.edition(x, 1, "c;");
+        Check.dueWays(x, "K0 - -", "K0");
+        Check.edition(x, 1, "C;");
+        Check.dueWays(x, "K0 - -", "K0");
+        x.edition(0);
+        Check.dueWays(x, "", "-");
     }
 
     private static void nothingCanBeUndone() {

@@ -8,6 +8,7 @@ public final class Promise10Test {
         ordinary();
         noneToEight();
         lastOfFourteen();
+        longAheadOfShort();
         noSuchLines();
         Check.close();
     }
@@ -48,6 +49,22 @@ public final class Promise10Test {
         due(x, 0, 13, 0);
         due(x, 14, 13, -1);
         due(x, 13, 14, -1);
+    }
+
+    /** What was asked ahead of it does not count. */
+    private static void longAheadOfShort() {
+        String line = "a b c d e f g h";
+        StringBuilder lines = new StringBuilder();
+        for (int words = 8; words >= 1; words--) {
+            lines.append(line, 0, 2 * words - 1).append(';');
+        }
+        MovedLines x = Check.of(lines.toString(), lines.toString());
+        for (int old = 0; old < 8; old++) {
+            for (int fresh = 0; fresh < 8; fresh++) {
+                due(x, old, fresh, Math.min(8 - old, 8 - fresh));
+                due(x, 0, 0, 8);
+            }
+        }
     }
 
     private static void noSuchLines() {

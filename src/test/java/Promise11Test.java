@@ -8,6 +8,7 @@ public final class Promise11Test {
         leastCouples();
         firstToLast();
         lastOfFourteen();
+        longAheadOfShort();
         noSuchWord();
         noSuchLines();
         Check.close();
@@ -58,6 +59,18 @@ public final class Promise11Test {
         due(x, 12, 0, 12, 0);
         due(x, 14, 0, 13, -1);
         due(x, 13, 1, 14, -1);
+    }
+
+    /** What was asked ahead of it does not count. */
+    private static void longAheadOfShort() {
+        MovedLines x = Check.of("a b c d e f g h;a b;b;", "a b c d e f g h;a b;b a;");
+        for (int k = 0; k < 8; k++) {
+            due(x, 0, k, 0, k);
+            due(x, 1, k, 1, k < 2 ? k : -1);
+            due(x, 1, k, 2, k == 0 ? 1 : -1);
+            due(x, 2, k, 2, k == 0 ? 0 : -1);
+            due(x, 0, k, 1, k < 2 ? k : -1);
+        }
     }
 
     private static void noSuchWord() {

@@ -11,6 +11,7 @@ public final class Promise12Test {
         emptyEditions();
         fullEditions();
         notBelowKept();
+        longAheadOfShort();
         Check.close();
     }
 
@@ -46,6 +47,21 @@ public final class Promise12Test {
         due("a;b;".repeat(7), "b;a;".repeat(7), 13);
         due(Check.FOURTEEN, "o;o;o;o;o;o;o;o;o;o;o;o;o;n;", 1);
         due(Check.FOURTEEN, "a;o;o;o;o;o;o;o;o;o;o;o;o;n;", 2);
+    }
+
+    /** What was asked ahead of it does not count. */
+    private static void longAheadOfShort() {
+        MovedLines x = Check.of("a b c d e f g h;i;", "a b c d e f g j;k;");
+        Check.due("changes()", x.changes(), 4);
+        Check.due("most()", x.most(), 0);
+        x = Check.of(Check.FOURTEEN, Check.FOURTEEN);
+        for (int lines = 14; lines > 0; lines--) {
+            Check.due("most() of " + lines, x.most(), lines);
+            x.cut(0, lines - 1);
+            x.cut(1, 0);
+            x.take();
+        }
+        Check.due("most() of none", x.most(), 0);
     }
 
     /** Here the RUN of ANCHORS keeps fewer LINES than could stay. */

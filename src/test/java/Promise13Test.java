@@ -11,6 +11,7 @@ public final class Promise13Test {
         emptyEditions();
         fullEditions();
         editedAtTheBound();
+        askedAgain();
         Check.close();
     }
 
@@ -41,6 +42,20 @@ public final class Promise13Test {
         due(EIGHT.repeat(14), "a b c d i j k l;".repeat(14), 112);
         due(EIGHT.repeat(13) + "z;", "y;" + EIGHT.repeat(13), 2);
         due(Check.FOURTEEN, Check.FOURTEEN.substring(2) + "a;", 0);
+    }
+
+    private static void askedAgain() {
+        MovedLines x = Check.of("a b c;", "d e;");
+        Check.due("changes()", x.changes(), 5);
+        Check.due("changes() again", x.changes(), 5);
+        x.cut(0, 0);
+        Check.due("changes() behind a cut", x.changes(), 2);
+        x.cut(1, 0);
+        Check.due("changes() of no lines", x.changes(), 0);
+        x.undo();
+        Check.due("changes() behind undo", x.changes(), 2);
+        Check.due("would(0, 0, 0)", x.would(0, 0, 0), -1);
+        Check.due("changes() behind would", x.changes(), 2);
     }
 
     /** Four WORDS of eight that STAY are enough for an EDITED LINE, three are not. */

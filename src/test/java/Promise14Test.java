@@ -9,6 +9,7 @@ public final class Promise14Test {
         emptyEditions();
         allHeadOrTail();
         fullEditions();
+        askedAgain();
         anotherWhat();
         Check.close();
     }
@@ -51,6 +52,25 @@ public final class Promise14Test {
         due(Check.FOURTEEN, "n;" + Check.FOURTEEN.substring(0, 26), 14, 13);
         due(Check.FOURTEEN, "z;" + Check.FOURTEEN.substring(2, 26) + "y;", 12, 12);
         due("x;".repeat(14), "y;" + "x;".repeat(12) + "y;", 0, 0);
+    }
+
+    /** Behind ANCHORS none are left, if there are no LINES or all are alike. */
+    private static void askedAgain() {
+        for (int which = 0; which < 2; which++) {
+            MovedLines x = Check.of("a;b;c;", "c;a;b;");
+            Check.due("anchors(0)", x.anchors(0), 3);
+            Check.due("anchors(1)", x.anchors(1), 2);
+            Check.due("edition of nothing", x.edition(which), 0);
+            Check.due("anchors(0) without lines of " + which, x.anchors(0), 0);
+            Check.due("anchors(1) without lines of " + which, x.anchors(1), 0);
+        }
+        MovedLines x = Check.of("a;b;c;", "c;a;b;");
+        Check.due("anchors(0)", x.anchors(0), 3);
+        Check.due("would(1, 0, 0)", x.would(1, 0, 0) > 0, true);
+        Check.due("anchors(0) behind would", x.anchors(0), 3);
+        x.take();
+        Check.due("anchors(0) behind take", x.anchors(0), 0);
+        Check.due("anchors(1) behind take", x.anchors(1), 0);
     }
 
     private static void anotherWhat() {

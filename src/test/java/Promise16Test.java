@@ -26,6 +26,7 @@ public final class Promise16Test {
 
     private static void ordinary() {
         MovedLines x = Check.of("a;b;", "");
+        Check.dueWays(x, "- -", "");
         Check.due("put(0, 0)", Check.put(x, 0, 0, "c d"), 3);
         Check.due("put(0, 3)", Check.put(x, 0, 3, "\n e "), 4);
         Check.due("put(0, 2)", Check.put(x, 0, 2, "f"), 5);

@@ -24,6 +24,7 @@ public final class Promise17Test {
 
     private static void ordinary() {
         MovedLines x = Check.of("a;b;c;", "d;");
+        Check.dueWays(x, "- - -", "-");
         Check.due("change(0, 1)", Check.change(x, 0, 1, "x y z"), 3);
         Check.due("change(1, 0)", Check.change(x, 1, 0, "c"), 1);
         Check.dueText("change", x, 0, "a;x y z;c;");

@@ -14,6 +14,7 @@ public final class Promise18Test {
 
     private static void ordinary() {
         MovedLines x = Check.of("a;b c;d;", "d;");
+        Check.dueWays(x, "- - K0", "K2");
         Check.tell(x, "tape");
         Check.due("cut(0, 1)", x.cut(0, 1), 2);
         Check.dueText("cut", x, 0, "a;d;");

@@ -25,12 +25,14 @@ public final class Promise19Test {
 
     private static void ordinary() {
         MovedLines x = Check.of("a;b b;c;d d d;e;", "a;b;c;d;e;");
+        Check.dueWays(x, "K0 E1 K2 - K4", "K0 E1 K2 - K4");
         Check.tell(x, "tape");
         due(x, 0, 1, 2, 3, true);
         Check.dueText("move", x, 0, "a;d d d;e;b b;c;");
         due(x, 0, 4, 1, 0, true);
         Check.dueText("move", x, 0, "c;a;d d d;e;b b;");
         Check.dueText("the other edition", x, 1, "a;b;c;d;e;");
+        Check.dueWays(x, "K2 M0 - K4 E1", "M1 E4 K0 - K3");
         Check.due("now(8)", x.now(8), 2);
         Check.due("now(9), the tape stays", x.now(9), 4);
     }

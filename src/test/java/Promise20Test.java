@@ -14,6 +14,7 @@ public final class Promise20Test {
 
     private static void ordinary() {
         MovedLines x = Check.of("a;b;", "c d;e;f;");
+        Check.dueWays(x, "- -", "- - -");
         Check.tell(x, "xyz");
         Check.due("take()", x.take(), 3);
         Check.dueText("take", x, 0, "c d;e;f;");

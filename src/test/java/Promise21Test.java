@@ -13,6 +13,7 @@ public final class Promise21Test {
         manyTimesRound();
         refusedIsNoStep();
         stepsOverUndone();
+        comparedAnew();
         tapeAndFaultStay();
         editionForgets();
         Check.close();
@@ -160,6 +161,18 @@ public final class Promise21Test {
         Check.due("undo()", x.undo(), 0);
         Check.dueText("undo", x, 0, "a;b;c;d;");
         Check.due("undo()", x.undo(), -1);
+    }
+
+    private static void comparedAnew() {
+        MovedLines x = Check.of("a;b;", "b;c;");
+        Check.dueWays(x, "- K0", "K1 -");
+        x.cut(0, 1);
+        x.take();
+        Check.dueWays(x, "K0 K1", "K0 K1");
+        Check.due("undo()", x.undo(), 1);
+        Check.dueWays(x, "-", "- -");
+        Check.due("undo()", x.undo(), 0);
+        Check.dueWays(x, "- K0", "K1 -");
     }
 
     private static void tapeAndFaultStay() {

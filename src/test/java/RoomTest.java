@@ -73,12 +73,12 @@ public final class RoomTest {
             long first = made();
             long idle = made() - first;
             long before = made();
-            for (int k = 0; k < 24; k++) {
+            for (int k = 0; k < 18; k++) {
                 callAll(x, k);
             }
             least = Math.min(least, made() - before - idle);
         }
-        Check.due("bytes made by some 500 calls: " + least, least < 100, true);
+        Check.due("bytes made by some 450 calls: " + least, least < 100, true);
     }
 
     private static int callAll(MovedLines x, int k) {

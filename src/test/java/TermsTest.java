@@ -76,6 +76,8 @@ public final class TermsTest {
             "M13 M12 M11 M10 M9 M8 M7 M6 M5 M4 M3 M2 M1 K0");
         due(Check.FOURTEEN, Check.FOURTEEN.substring(2) + "a;", "M13 K0 K1 K2 K3 K4 K5 K6 K7 K8 K9 K10 K11 K12",
             "K1 K2 K3 K4 K5 K6 K7 K8 K9 K10 K11 K12 K13 M0");
+        // all of the RUN at once: x y are there just once behind m, but not in the RANGE
+        due("x;y;m;n;x;y;q;", "r;m;x;y;n;s;", "M2 M3 K1 K4 - - -", "- K2 M0 M1 K3 -");
         // like long ones: the first anchor decides, then the second
         due("a;b;c;d;", "d;b;a;c;", "K2 M1 K3 M0", "M3 M1 K0 K2");
         due("a;b;c;d;e;", "a;c;b;e;d;", "K0 K2 M1 K4 M3", "K0 M2 K1 M4 K3");
@@ -88,6 +90,12 @@ public final class TermsTest {
         due("p;x;t;m;u;x;q;", "r;x;v;m;w;x;s;", "- K1 - K3 - K5 -", "- K1 - K3 - K5 -");
         // between two anchors that follow one another
         due("x;p;m;q;x;r;n;x;s;", "t;m;u;x;v;n;w;", "- - K1 - K3 - K5 - -", "- K2 - K4 - K6 -");
+        // HEAD and TAIL of a range behind, between, ahead of anchors: x is no anchor there
+        due("x;p;m;x;x;q;", "r;m;x;x;s;", "- - K1 K2 K3 -", "- K2 K3 K4 -");
+        due("q;x;x;m;p;x;", "s;x;x;m;r;", "- K1 K2 K3 - -", "- K1 K2 K3 -");
+        due("p;m;x;x;t;x;x;n;q;", "r;m;x;x;u;x;x;n;s;", "- K1 K2 K3 - K5 K6 K7 -", "- K1 K2 K3 - K5 K6 K7 -");
+        due("p;m;x;x;n;q;", "r;m;x;x;x;n;s;", "- K1 K2 K3 K5 -", "- K1 K2 K3 - K4 -");
+        due("p;m;x;x;x;n;q;", "r;m;x;x;n;s;", "- K1 K2 K3 - K4 -", "- K1 K2 K3 K5 -");
         // three ranges deep: z is once only inside x .. x inside m .. n
         due("z;x;m;a;x;b;z;c;x;n;z;", "d;m;e;z;f;n;g;", "- - K1 - - - K3 - - K5 -", "- K2 - K6 - K9 -");
         due("z;y;m;y;a;z;b;x;c;n;x;z;", "d;y;m;e;z;f;x;n;g;h;",
