@@ -9,6 +9,7 @@ public final class Promise11Test {
         firstToLast();
         lastOfFourteen();
         longAheadOfShort();
+        unlikeLengths();
         noSuchWord();
         noSuchLines();
         Check.close();
@@ -71,6 +72,18 @@ public final class Promise11Test {
             due(x, 2, k, 2, k == 0 ? 0 : -1);
             due(x, 0, k, 1, k < 2 ? k : -1);
         }
+    }
+
+    /** A LINE that the one EDITION has and the other has not. */
+    private static void unlikeLengths() {
+        MovedLines x = Check.of("a;b;c d;", "d e;");
+        due(x, 2, 0, 0, -1);
+        due(x, 2, 1, 0, 0);
+        due(x, 0, 0, 2, -1);
+        x = Check.of("d e;", "a;b;c d;");
+        due(x, 0, 0, 2, 1);
+        due(x, 0, 1, 2, -1);
+        due(x, 2, 0, 0, -1);
     }
 
     private static void noSuchWord() {
