@@ -25,6 +25,8 @@ public final class Promise13Test {
         due("a a b;", "a b b;", 2);
         // lines of unlike sizes at unlike places
         due("k;a b c;k;", "k;k;p q;r;", 6);
+        due("k;a b c;", "a b c d;l m n o p;", 7);
+        due("a b c d;l m n o p;", "k;a b c;", 7);
         due("x;k l m;x;n o;", "p;q r;x;x;s t u v;", 12);
     }
 

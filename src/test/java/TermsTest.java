@@ -9,6 +9,8 @@ public final class TermsTest {
         anchors();
         run();
         rangesAgain();
+        rangesAtUnlikePlaces();
+        manyRanges();
         moved();
         movedInOrder();
         edited();
@@ -102,6 +104,33 @@ public final class TermsTest {
             "- K1 K2 - - K4 - K6 - K7 - -", "- K1 K2 - K5 - K7 K9 - -");
     }
 
+    /** Both ways round: what comes late in the one EDITION comes early in the other. */
+    private static void dueBothWays(String one, String other, String ones, String others) {
+        due(one, other, ones, others);
+        due(other, one, others, ones);
+    }
+
+    private static void rangesAtUnlikePlaces() {
+        Check.about("RANGES at unlike places");
+        // HEAD behind m
+        dueBothWays("m;x;x;u;", "p;q;r;s;m;x;x;t;", "K4 K5 K6 -", "- - - - K0 K1 K2 -");
+        // TAIL between m and n
+        dueBothWays("m;u;x;x;n;v;", "p;q;r;s;t;m;w;x;x;n;", "K5 - K7 K8 K9 -", "- - - - - K0 - K2 K3 K4");
+        // x is an anchor ahead of m and behind it
+        dueBothWays("x;m;a;x;b;", "p;q;r;s;t;m;c;x;d;", "- K5 - K7 -", "- - - - - K1 - K3 -");
+        dueBothWays("x;m;a;x;b;", "p;q;x;s;t;m;c;x;d;", "K2 K5 - K7 -", "- - K0 - - K1 - K3 -");
+        // y is an anchor behind m, with a TAIL ahead of it and a HEAD behind it
+        dueBothWays("y;m;a;x;x;y;z;z;b;", "p;q;r;s;t;m;c;x;x;y;z;z;d;",
+            "- K5 - K7 K8 K9 K10 K11 -", "- - - - - K1 - K3 K4 K5 K6 K7 -");
+    }
+
+    /** Five anchors leave six RANGES; in the last a is an anchor, and the HEAD behind it is of the ninth RANGE. */
+    private static void manyRanges() {
+        Check.about("many RANGES");
+        due("a;b;p;c;q;d;r;e;s;f;x;a;x;h;", "t;b;u;c;v;d;w;e;y;f;i;a;x;j;",
+            "- K1 - K3 - K5 - K7 - K9 - K11 K12 -", "- K1 - K3 - K5 - K7 - K9 - K11 K12 -");
+    }
+
     private static void moved() {
         Check.about("MOVED");
         due("x;x;a;", "b;x;x;", "M1 M2 -", "- M0 M1");
@@ -144,6 +173,9 @@ public final class TermsTest {
         }
         // the words SHARED stand in order: c b a against a b c share one
         due("a b c;", "c b a;", "-", "-");
+        // words of unlike places, in lines of unlike sizes
+        dueBothWays("a b;", "p a b;", "E0", "E0");
+        dueBothWays("a b c;", "p a q b r c;", "E0", "E0");
         // as many couples as lines
         MovedLines x = Check.of(Check.FOURTEEN.replace(";", " x;"), Check.FOURTEEN.replace(";", " y;"));
         Check.due("now(5)", x.now(5), 14);
@@ -156,6 +188,9 @@ public final class TermsTest {
         due("a b;a c;a d;", "a e;a f;", "E0 E1 -", "E0 E1");
         due("k;a b;", "a c;l;", "- E0", "E1 -");
         due("a b;k;", "l;a c;", "E1 -", "- E0");
+        // a line that the other edition does not have
+        dueBothWays("a c;", "k;l;m;a b;", "E3", "- - - E0");
+        dueBothWays("a c;p q;", "k;l;q r;m;a b;", "E4 E2", "- - E1 - E0");
     }
 
     private static void eachLineOnce() {
