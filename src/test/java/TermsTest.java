@@ -15,6 +15,7 @@ public final class TermsTest {
         movedInOrder();
         edited();
         editedInOrder();
+        editedAheadOfACut();
         eachLineOnce();
         Check.close();
     }
@@ -129,6 +130,9 @@ public final class TermsTest {
         Check.about("many RANGES");
         due("a;b;p;c;q;d;r;e;s;f;x;a;x;h;", "t;b;u;c;v;d;w;e;y;f;i;a;x;j;",
             "- K1 - K3 - K5 - K7 - K9 - K11 K12 -", "- K1 - K3 - K5 - K7 - K9 - K11 K12 -");
+        // c parts all; d, then b, then h, then f part what is ahead of c; h parts what is behind it
+        due("a;a;b;d;f;h;f;g;b;h;c;e;h;d;", "f;a;b;d;o;h;i;f;b;p;c;p;h;i;",
+            "- K1 K2 K3 M0 K5 K7 - K8 - K10 - K12 -", "M4 K1 K2 K3 - K5 - K6 K8 - K10 - K12 -");
     }
 
     private static void moved() {
@@ -191,6 +195,23 @@ public final class TermsTest {
         // a line that the other edition does not have
         dueBothWays("a c;", "k;l;m;a b;", "E3", "- - - E0");
         dueBothWays("a c;p q;", "k;l;q r;m;a b;", "E4 E2", "- - E1 - E0");
+    }
+
+    /** A LINE that was EDITED and is cut leaves nothing behind. */
+    private static void editedAheadOfACut() {
+        Check.about("EDITED, a LINE cut");
+        for (int which = 0; which < 2; which++) {
+            String longer = "k;a b;";
+            MovedLines x = which == 0 ? Check.of(longer, "a c;") : Check.of("a c;", longer);
+            Check.due("now(5)", x.now(5), 1);
+            x.cut(which, 1);
+            Check.due("now(5) behind cut(" + which + ", 1)", x.now(5), 0);
+            Check.due("changes()", x.changes(), 3);
+            Check.dueWays(x, "-", "-");
+            Check.due("would(0, 0, 0)", x.would(0, 0, 0), 2);
+            x.undo();
+            Check.due("now(5) behind undo", x.now(5), 1);
+        }
     }
 
     private static void eachLineOnce() {
